@@ -3,26 +3,17 @@ public final class Promise03RemoveTest {
     private static final Due due = new Due();
 
     public static void main(String[] args) {
-        wrongNumbersAreBad();
         cellsBecomeFree();
+        everyCellOfTheWholeSheetBecomesFree();
+        wrongNumbersAreBad();
+        numbersOfNoRectangleAreBad();
         countsDownFromTwenty();
+        countsDownFromTheLowestNumber();
         due.end();
     }
 
-    private static void wrongNumbersAreBad() {
-        AtlasPacker sheet = new AtlasPacker(8, 8);
-        due.is("remove(0) when new", sheet.remove(0), AtlasPacker.BAD);
-        sheet.place(2, 2, false);
-        for (int id : Due.WRONG_NUMBERS) {
-            due.is("remove(" + id + ")", sheet.remove(id), AtlasPacker.BAD);
-        }
-        due.is("remove(1)", sheet.remove(1), AtlasPacker.BAD);
-        due.is("freeCells()", sheet.freeCells(), 60);
-        due.is("remove(0)", sheet.remove(0), 0);
-        due.is("remove(0) again", sheet.remove(0), AtlasPacker.BAD);
-    }
-
     private static void cellsBecomeFree() {
+        due.sentence("Takes rectangle id away; its cells become free.");
         AtlasPacker sheet = new AtlasPacker(8, 8);
         sheet.place(3, 2, false);
         sheet.place(2, 4, false);
@@ -39,10 +30,58 @@ public final class Promise03RemoveTest {
         due.lies(sheet, 2, 5, 0, 3, 3);
     }
 
+    private static void everyCellOfTheWholeSheetBecomesFree() {
+        due.sentence("Takes rectangle id away; its cells become free.");
+        AtlasPacker sheet = new AtlasPacker(16, 16);
+        sheet.place(16, 16, false);
+        due.is("remove(0)", sheet.remove(0), 0);
+        for (int y = 0; y < 16; y++) {
+            for (int x = 0; x < 16; x++) {
+                due.is("owner(" + x + ", " + y + ")", sheet.owner(x, y), AtlasPacker.NONE);
+            }
+        }
+    }
+
+    private static void wrongNumbersAreBad() {
+        due.sentence("id is not the number of a rectangle on the sheet: BAD.");
+        AtlasPacker sheet = Due.twentyCells();
+        String before = Due.picture(sheet);
+        for (int id : Due.WRONG_NUMBERS) {
+            due.is("remove(" + id + ")", sheet.remove(id), AtlasPacker.BAD);
+        }
+        due.unchanged(before, sheet);
+    }
+
+    private static void numbersOfNoRectangleAreBad() {
+        due.sentence("id is not the number of a rectangle on the sheet: BAD.");
+        AtlasPacker sheet = new AtlasPacker(8, 8);
+        due.is("remove(0) when new", sheet.remove(0), AtlasPacker.BAD);
+        due.is("remove(19) when new", sheet.remove(19), AtlasPacker.BAD);
+        sheet.place(2, 2, false);
+        sheet.place(2, 2, false);
+        due.is("remove(0)", sheet.remove(0), 1);
+        String before = Due.picture(sheet);
+        due.is("remove(0) again", sheet.remove(0), AtlasPacker.BAD);
+        due.is("remove(2) never placed", sheet.remove(2), AtlasPacker.BAD);
+        due.unchanged(before, sheet);
+        sheet.clear();
+        due.is("remove(1) after clear", sheet.remove(1), AtlasPacker.BAD);
+    }
+
     private static void countsDownFromTwenty() {
+        due.sentence("Else answers the number of rectangles left.");
         AtlasPacker sheet = Due.twentyCells();
         for (int id = 19; id >= 0; id--) {
             due.is("remove(" + id + ")", sheet.remove(id), id);
+        }
+        due.is("freeCells()", sheet.freeCells(), 256);
+    }
+
+    private static void countsDownFromTheLowestNumber() {
+        due.sentence("Else answers the number of rectangles left.");
+        AtlasPacker sheet = Due.twentyCells();
+        for (int id = 0; id < 20; id++) {
+            due.is("remove(" + id + ")", sheet.remove(id), 19 - id);
         }
         due.is("freeCells()", sheet.freeCells(), 256);
     }
